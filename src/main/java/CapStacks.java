@@ -376,16 +376,6 @@ public final class CapStacks {
             copyRow(other.made, made);
             copyRow(other.taken, taken);
         }
-
-        int vestedAfter(int grant, int months) {
-            if (months < cliff[grant]) {
-                return 0;
-            }
-            if (months >= term[grant]) {
-                return shares[grant];
-            }
-            return portion(shares[grant], months, term[grant]);
-        }
     }
 
     /** The round that is on, if one is. */
@@ -778,8 +768,15 @@ public final class CapStacks {
 
         int vested(int grant) {
             int left = leftAt[grants.holder[grant]];
-            int until = left == NONE ? time : left;
-            return grants.vestedAfter(grant, until - grants.made[grant]);
+            int months = (left == NONE ? time : left) - grants.made[grant];
+            int term = grants.term[grant];
+            if (months < grants.cliff[grant]) {
+                return 0;
+            }
+            if (term <= 0 || months >= term) {
+                return grants.shares[grant];
+            }
+            return grants.shares[grant] * months / term;
         }
 
         int takeable(int grant) {
