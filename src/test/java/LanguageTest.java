@@ -1,4 +1,5 @@
 import java.io.IOException;
+import java.lang.management.ManagementFactory;
 import java.lang.reflect.Field;
 import java.lang.reflect.Method;
 import java.lang.reflect.Modifier;
@@ -124,8 +125,37 @@ public final class LanguageTest {
         }
     }
 
+    /** The dearest calls make nothing, so that the room of a run holds whatever the calls are. */
+    private static void room() {
+        CapStacks x = new CapStacks();
+        for (int i = 0; i < 4; i++) {
+            x.shareClass(1 + i, 1, i, i % 3, 4);
+            x.holder();
+            x.issue(0, i, 100);
+        }
+        for (int i = 0; i < 80; i++) {
+            x.type("pass 1;".charAt(i % 7));
+        }
+        com.sun.management.ThreadMXBean threads = (com.sun.management.ThreadMXBean) ManagementFactory.getThreadMXBean();
+        long thread = Thread.currentThread().getId();
+        threads.getThreadAllocatedBytes(thread);
+        long before = threads.getThreadAllocatedBytes(thread);
+        for (int i = 0; i < 100; i++) {
+            x.fault(0);
+            x.play();
+            x.holderGets(1000, 0);
+            x.byGain(1000, 0);
+            x.holderOf(0, 9);
+        }
+        long made = threads.getThreadAllocatedBytes(thread) - before;
+        if (made > 10000) {
+            broken(12, "five hundred calls make " + made + " bytes");
+        }
+    }
+
     public static void main(String[] args) throws IOException {
         String source = Files.readString(SOURCE);
+        room();
         face();
         classesInside();
         words(source.replaceAll("(?s)/\\*.*?\\*/", "").replaceAll("//[^\n]*", ""));

@@ -853,6 +853,22 @@ public final class PromiseTests {
         due("count(4)", x.count(4), 20);
     }
 
+    /** An object is used for at most 512 calls; the last one of them answers as the first ones do. */
+    private static void lastCalls() {
+        promise = 0;
+        CapStacks x = new CapStacks();
+        for (int i = 0; i < 127; i++) {
+            due("pass(1)", x.pass(1), 1);
+            due("pass(2)", x.pass(2), 3);
+            due("undo()", x.undo(), 1);
+            due("undo()", x.undo(), 0);
+        }
+        due("holder(), call 509", x.holder(), 0);
+        due("issue(0, 0, 9), call 510", x.issue(0, 0, 9), 0);
+        due("count(11), call 511", x.count(11), 2);
+        due("holderGets(100, 0), call 512", x.holderGets(100, 0), 100);
+    }
+
     private static void wildArguments() {
         promise = 0;
         CapStacks x = company();
@@ -910,6 +926,7 @@ public final class PromiseTests {
         clearText();
         fault();
         play();
+        lastCalls();
         wildArguments();
         System.out.println(wrong == 0 ? tested + " answers are as due" : wrong + " answers are not as due");
         if (wrong != 0) {
